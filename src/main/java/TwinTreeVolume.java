@@ -53,10 +53,12 @@ public final class TwinTreeVolume {
 
     /** Promise 1. */
     public TwinTreeVolume() {
-        now = new Disk();
+        Disk real = new Disk();
+        Disk second = new Disk();
+        now = real;
+        trial = second;
         kept = new Disk();
-        trial = new Disk();
-        mind = new Mind(now, trial);
+        mind = new Mind(real, second);
         text = new Text();
         told = new Row(MOST_NUMBERS);
         refusals = new int[7];
@@ -1103,7 +1105,6 @@ public final class TwinTreeVolume {
         private void place(int f, int p, int b) {
             if (isFile(f) && isPage(p) && isBlock(b)) {
                 places[f * PAGES + p] = b;
-                written[f * PAGES + p] = false;
                 owners[b] = f * PAGES + p;
             }
         }
@@ -1195,12 +1196,10 @@ public final class TwinTreeVolume {
 
         private void move(int f, int p, int to) {
             int from = blockAt(f, p);
-            boolean wasWritten = isWritten(f, p);
-            if (isFile(f) && isPage(p) && isBlock(from) && isBlock(to)) {
+            if (isBlock(from) && isBlock(to)) {
                 bytes[to] = bytes[from];
                 owners[from] = NONE;
                 place(f, p, to);
-                written[f * PAGES + p] = wasWritten;
             }
         }
     }

@@ -38,9 +38,37 @@ public final class LookTest {
         Checks.due("of one size by start", y.byPlace(1, 1), 202);
         Checks.due("of one size by start", y.byPlace(2, 1), 2002);
         Checks.due("least", y.byPlace(0, 1), 2501);
+        mostRuns();
         TwinTreeVolume z = Checks.made("a00024;a10024;a20016;");
         Checks.due("none", z.byPlace(0, 0), -1);
         Checks.due("none", z.byPlace(0, 1), -1);
+    }
+
+    /** Every other block is free: no volume has more runs. */
+    private static void mostRuns() {
+        TwinTreeVolume x = Checks.made("a00024;a10024;a20016;");
+        for (int b = 1; b < 64; b += 2) {
+            x.punch(b / 24, b % 24, 1);
+        }
+        Checks.due("runs", x.count(3), 32);
+        for (int i = 0; i < 32; i++) {
+            Checks.due("by place " + i, x.byPlace(i, 0), 100 * (2 * i + 1) + 1);
+            Checks.due("by size " + i, x.byPlace(i, 1), 100 * (2 * i + 1) + 1);
+        }
+        Checks.due("past the last", x.byPlace(32, 0), -1);
+        Checks.due("nearest", x.nearest(63, 1), 63);
+        Checks.due("a piece for each page", x.ahead(3, 0, 24), 24);
+        Checks.due("extents", x.file(3, 4), 24);
+        Checks.due("depth", x.file(3, 5), 2);
+        Checks.due("last piece", x.page(3, 23, 0), 47);
+        for (int p = 0; p < 8; p++) {
+            x.says(2, 16 + p, 9);
+        }
+        Checks.due("all is promised", x.count(2), 0);
+        // A hole stands between no two of them, and block 63 is the last that is free.
+        Checks.due("most steps of eight pages", x.flush(2), 24);
+        Checks.due("last", x.page(2, 23, 0), 63);
+        Checks.due("no runs", x.count(3), 0);
     }
 
     private static void fit() {

@@ -135,6 +135,10 @@ public final class TextTest {
         Checks.due("page ahead", x.page(1, 2, 0), 2);
         Checks.due("not written", x.page(1, 2, 1), 0);
 
+        TwinTreeVolume low = new TwinTreeVolume();
+        Checks.due("settled at block 0", Checks.tell(low, "a00001;a10001;p00001;s1;"), 4);
+        Checks.due("block 0", low.whose(0, 0), 100);
+
         TwinTreeVolume full = new TwinTreeVolume();
         StringBuilder text = new StringBuilder();
         for (int i = 0; i < 32; i++) {
