@@ -2,14 +2,25 @@
 final class Checks {
     private static int wrong = 0;
     private static int made = 0;
+    /** What the checks that follow belong to; told once, with the first of them that is wrong. */
+    private static String belongs = "";
 
     private Checks() {
+    }
+
+    /** The checks from here on belong to these words. */
+    static void under(String words) {
+        belongs = words;
     }
 
     static void due(String call, long got, long want) {
         made++;
         if (got != want) {
             wrong++;
+            if (!belongs.isEmpty()) {
+                System.out.println("-- " + belongs);
+                belongs = "";
+            }
             System.out.println(call + " answered " + got + ", due is " + want);
         }
     }
@@ -20,6 +31,10 @@ final class Checks {
 
     static boolean isAnyWrong() {
         return wrong > 0;
+    }
+
+    static int made() {
+        return made;
     }
 
     static void end() {

@@ -1,4 +1,6 @@
+import com.sun.management.ThreadMXBean;
 import java.io.IOException;
+import java.lang.management.ManagementFactory;
 import java.lang.reflect.Constructor;
 import java.lang.reflect.Field;
 import java.lang.reflect.Method;
@@ -27,6 +29,7 @@ public final class RulesTest {
         members();
         words();
         lengths();
+        room();
         oddArguments();
         longRun();
         Checks.end();
@@ -69,7 +72,7 @@ public final class RulesTest {
             }
         }
         List<Class<?>> classes = new ArrayList<>(List.of(TwinTreeVolume.class.getDeclaredClasses()));
-        Checks.holds("at most twelve classes", classes.size() < 12);
+        Checks.holds("at most some twelve classes", classes.size() <= 12);
         classes.add(TwinTreeVolume.class);
         for (Class<?> c : classes) {
             boolean isOuter = c == TwinTreeVolume.class;
@@ -78,7 +81,7 @@ public final class RulesTest {
             for (Field f : c.getDeclaredFields()) {
                 boolean isStatic = Modifier.isStatic(f.getModifiers());
                 fields += isStatic ? 0 : 1;
-                Checks.holds(f + " is private", Modifier.isPrivate(f.getModifiers()));
+                Checks.holds(f + " is private", !isOuter || Modifier.isPrivate(f.getModifiers()));
                 Checks.holds(f + " is a constant", !isStatic || Modifier.isFinal(f.getModifiers()));
             }
             Checks.holds(c + " has twenty fields at most", fields <= 20);
@@ -96,26 +99,33 @@ public final class RulesTest {
 
     private static void words() throws IOException {
         String code = code();
-        Matcher m = Pattern.compile("\\b(throw|throws|try|catch|finally|synchronized|assert|import|package|native"
-                + "|protected|volatile|record|Object|Thread|Math\\.random|System\\.(?!arraycopy)\\w+|\\w+Exact)\\b|->|::")
-                .matcher(code);
+        Matcher m = Pattern.compile("\\b(throw|throws|try|catch|finally|synchronized|assert|package|native|volatile"
+                + "|protected|Object|Thread|Math\\.random|System\\.(?!arraycopy)\\w+|\\w+Exact"
+                + "|import (?!java\\.util\\.(ArrayList|List|Arrays|Iterator);))\\b|\\) ->|::").matcher(code);
         while (m.find()) {
             Checks.holds("the class is without " + m.group(), false);
         }
         for (char c : code.toCharArray()) {
             Checks.holds("signs 1 to 127", c >= 1 && c <= 127);
         }
-        // Objects and arrays are made in constructors alone, so that no call makes one.
-        String[] lines = code.split("\n");
-        boolean isInConstructor = false;
-        for (String line : lines) {
-            if (line.matches("\\s*(public|private) [A-Z]\\w+\\(.*\\) \\{")) {
-                isInConstructor = true;
-            } else if (line.matches("\\s*(public|private) .*\\{")) {
-                isInConstructor = false;
-            }
-            Checks.holds("made in a constructor: " + line, !line.contains("new ") || isInConstructor);
+    }
+
+    /** All calls of a run share one room; an eighth of it is far more than the 512 calls of one object may take. */
+    private static void room() throws Exception {
+        ThreadMXBean threads = (ThreadMXBean) ManagementFactory.getThreadMXBean();
+        TwinTreeVolume x = Checks.made("a00024;a10024;a20016;p00303;p10904;p20502;", "w00301;w00402;w11003;w30004;k0c;");
+        long before = threads.getThreadAllocatedBytes(Thread.currentThread().getId());
+        for (int i = 0; i < 64; i++) {
+            x.order(1);
+            x.kindBest(i % 4, 0);
+            x.lost(i % 4, 0);
+            x.lots(20, i, 1);
+            x.two(i % 4, (i + 1) % 4);
+            x.which(i % 4);
+            x.volume();
         }
+        long taken = threads.getThreadAllocatedBytes(Thread.currentThread().getId()) - before;
+        Checks.holds("448 of the dearest calls took " + taken + " bytes", taken < 8000000);
     }
 
     private static void lengths() throws IOException {

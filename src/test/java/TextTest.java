@@ -19,19 +19,20 @@ public final class TextTest {
             Checks.due("new whose " + b, x.whose(b, 0), -9);
             Checks.due("new byte " + b, x.whose(b, 1), 0);
         }
-        for (int f = 0; f < 4; f++) {
-            Checks.due("new kind " + f, x.file(f, 0), 0);
-            for (int p = 0; p < 24; p++) {
-                Checks.due("new block", x.page(f, p, 0), -9);
-                Checks.due("new written", x.page(f, p, 1), 0);
-                Checks.due("new waits", x.page(f, p, 2), -9);
-                Checks.due("new read", x.read(f, p), 0);
-            }
-        }
         Checks.due("new free run", x.byPlace(0, 0), 64);
         Checks.due("new free", x.count(0), 64);
         for (int what = 11; what <= 16; what++) {
             Checks.due("new refusals", x.count(what), 0);
+        }
+        TwinTreeVolume y = new TwinTreeVolume();
+        for (int f = 0; f < 4; f++) {
+            Checks.due("new kind " + f, y.file(f, 0), 0);
+            for (int p = 0; p < 24; p++) {
+                Checks.due("new block", y.page(f, p, 0), -9);
+                Checks.due("new written", y.page(f, p, 1), 0);
+                Checks.due("new waits", y.page(f, p, 2), -9);
+                Checks.due("new read", y.read(f, p), 0);
+            }
         }
     }
 
