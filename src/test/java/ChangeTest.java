@@ -28,6 +28,7 @@ public final class ChangeTest {
         Checks.due(call, answer, -1);
     }
 
+    /** Promises 4 and 6. */
     private static void pageAndRead() {
         TwinTreeVolume x = Checks.made("w00305;f0;w00307;w00408;a00501;");
         Checks.due("block", x.page(0, 3, 0), 0);
@@ -64,6 +65,7 @@ public final class ChangeTest {
         Checks.due("stale read", x.read(1, 0), 0);
     }
 
+    /** Promise 5. */
     private static void fileNumbers() {
         TwinTreeVolume x = Checks.made("k2h;w20011;w20112;f2;w20013;w20514;a20802;w21015;");
         Checks.due("kind", x.file(2, 0), 4);
@@ -96,6 +98,7 @@ public final class ChangeTest {
         Checks.due("depth of 16", w.file(0, 5), 1);
     }
 
+    /** Promise 7. */
     private static void says() {
         TwinTreeVolume x = new TwinTreeVolume();
         Checks.due("says", x.says(1, 2, 30), 0);
@@ -122,6 +125,7 @@ public final class ChangeTest {
         Checks.due("refusals -6", x.count(16), 2);
     }
 
+    /** Promise 8. */
     private static void ahead() {
         TwinTreeVolume x = Checks.made("w00305;w00506;f0;w00801;");
         // Pages 3 and 5 are at 0 and 1; the holes 2, 4, 6..7, 9..11 are put one series behind the other.
@@ -148,6 +152,7 @@ public final class ChangeTest {
         Checks.due("free, but promised", x.count(0), 1);
     }
 
+    /** Promise 9. */
     private static void punch() {
         TwinTreeVolume x = Checks.made("w00009;w00108;w00207;f0;w00103;w00304;");
         Checks.due("below", x.punch(0, 1, 0), -4);
@@ -170,6 +175,7 @@ public final class ChangeTest {
         Checks.due("all free", x.count(4), 64);
     }
 
+    /** Promise 10. */
     private static void flush() {
         TwinTreeVolume x = Checks.made("w00001;w00102;w00203;w00504;");
         nobody("file 4", x.flush(4));
@@ -189,6 +195,7 @@ public final class ChangeTest {
         Checks.due("written now", x.page(0, 6, 1), 1);
     }
 
+    /** Promise 11. */
     private static void settle() {
         TwinTreeVolume x = Checks.made(GAPS);
         nobody("file -1", x.settle(-1));
@@ -219,6 +226,7 @@ public final class ChangeTest {
         Checks.due("two pages", z.page(0, 7, 0), 1);
     }
 
+    /** Promise 12. */
     private static void crash() {
         TwinTreeVolume x = Checks.made("w00001;w00102;w00303;w20004;");
         nobody("file 4", x.crash(4, -1));
@@ -251,6 +259,7 @@ public final class ChangeTest {
         Checks.due("nothing waits", x.crash(1, 5), 0);
     }
 
+    /** Promise 13. */
     private static void kinds() {
         TwinTreeVolume x = new TwinTreeVolume();
         Checks.due("kind", x.kind(3, 5), 0);
@@ -275,6 +284,7 @@ public final class ChangeTest {
         }
     }
 
+    /** Promises 8 and 13: where each kind begins. */
     private static void kindsPlace() {
         begins(1, 63, 63, 63, 30, 63, 63);
         begins(2, 1, 1, 1, 30, 1, 1);
@@ -299,6 +309,7 @@ public final class ChangeTest {
         Checks.due("first of the least", y.page(3, 5, 0), 2);
     }
 
+    /** Promises 8 and 13: where each kind begins behind a page. */
     private static void goals() {
         int[] goalFree = {63, 31, 31, 31, 63, 31};
         int[] goalTaken = {12, 12, 12, 30, 13, 5};
@@ -336,6 +347,7 @@ public final class ChangeTest {
         Checks.due("stripe of four", y.page(0, 5, 0), 8);
     }
 
+    /** Promises 8 and 10: pieces of a series. */
     private static void pieces() {
         // Free: 1 (2), 5 (5), 12 (4), 30 (7), 63 (1): no run of 15.
         TwinTreeVolume x = Checks.made(GAPS);

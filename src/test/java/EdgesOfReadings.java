@@ -194,6 +194,15 @@ final class EdgesOfReadings {
         }
         Checks.due("of no page", new TwinTreeVolume().kindBest(3, 0), 0);
         Checks.due("of no page", new TwinTreeVolume().kindBest(3, 1), 0);
+        TwinTreeVolume most = Given.free();
+        for (int b = 0; b < 48; b += 2) {
+            Given.open(most, b, 1);
+        }
+        for (int p = 0; p < 24; p++) {
+            most.says(0, p, 9);
+        }
+        Checks.due("most extents, by whichever kind", most.kindBest(0, 0), 0);
+        Checks.due("most extents", most.kindBest(0, 1), 24);
         best("near, striped and close put page 3 behind page 2", written(2, 20), new int[] {5, 1, 21, 1}, 3, 1, 1, 1);
         best("striped and high put pages 0 to 3 ahead of page 4", written(4, 12), new int[] {6, 6}, 0, 4, 2, 1);
         best("high puts pages 0 to 2 ahead of page 3", written(3, 12), new int[] {7, 5}, 0, 3, 4, 1);
@@ -289,6 +298,8 @@ final class EdgesOfReadings {
         TwinTreeVolume x = new TwinTreeVolume();
         Given.says(x, 0, 0, 1, 0);
         x.flush(0);
+        x.says(3, 5, 44);
+        x.flush(3);
         x.says(0, 0, 11);
         x.says(0, 4, 5);
         x.says(1, 0, 7);

@@ -492,6 +492,11 @@ final class EdgesOfTerms {
             goal.ahead(0, 1, 5);
             int[] left = {31, 31, 31, 50, 31, 50};
             Given.places("kind " + kind + ", no run of five", goal, 0, 1, 40, 41, 42, 43, left[kind]);
+            // A run as great as the first is at the goal, another one at a multiple of 4.
+            TwinTreeVolume alike = Given.at(30, 5, 4, 31, 4, 40, 4);
+            alike.kind(0, kind);
+            alike.ahead(0, 1, 5);
+            Given.places("kind " + kind + ", of several the first", alike, 0, 1, 5, 6, 7, 8, kind == HIGH ? 34 : 31);
         }
         TwinTreeVolume all = Given.free(1, 1, 5, 2, 20, 3);
         Given.says(all, 0, 0, 1, 2, 3, 4, 5, 6);
@@ -511,6 +516,10 @@ final class EdgesOfTerms {
         behind.kind(0, NEAR);
         behind.ahead(0, 1, 1);
         Given.places("the block behind", behind, 0, 1, 21);
+        TwinTreeVolume origin = Given.at(0, 1, 2, 20, 1);
+        origin.kind(0, NEAR);
+        origin.ahead(0, 1, 1);
+        Given.places("behind block 0", origin, 0, 1, 1);
         // Page 23 of one file is not ahead of page 0 of the next.
         TwinTreeVolume first = Given.free(20, 1);
         first.punch(1, 0, 1);
@@ -573,6 +582,7 @@ final class EdgesOfTerms {
         begins("the goal is taken", Given.at(20, 5, 4, 22, 4), NEAR, 1, 4, 5);
         begins("just up to block 63", Given.at(60, 5, 3, 61, 3), NEAR, 1, 3, 61);
         begins("past block 63", Given.at(60, 5, 4, 61, 3), NEAR, 1, 4, 5);
+        begins("behind block 0", Given.at(0, 1, 4, 20, 3), NEAR, 1, 3, 1);
         begins("no goal", Given.at(20, 5, 4, 21, 5), NEAR, 2, 4, 5);
         begins("no goal, of several the first", Given.at(20, 5, 5, 21, 5), NEAR, 2, 4, 5);
     }

@@ -11,6 +11,7 @@ public final class KeepTest {
         Checks.end();
     }
 
+    /** Promises 34 and 37. */
     private static void row() {
         TwinTreeVolume x = new TwinTreeVolume();
         Checks.due("clear of none", x.clear(), 0);
@@ -33,6 +34,7 @@ public final class KeepTest {
         Checks.due("the row has none then", x.count(6), 0);
     }
 
+    /** Promise 35. */
     private static void judge() {
         TwinTreeVolume x = Checks.made("w00001;w00202;f0;w00303;a00401;");
         judged(x, -9);
@@ -75,6 +77,7 @@ public final class KeepTest {
         Checks.due("the row has none then", x.count(6), 0);
     }
 
+    /** Promise 36. */
     private static void forged() {
         TwinTreeVolume x = Checks.made("a00010;p00202;p00601;");
         // Free: 2 (2), 6 (1), 10 (54).
@@ -97,6 +100,7 @@ public final class KeepTest {
         told(y, 0, 0, 0);
     }
 
+    /** Promises 39 and 40. */
     private static void image() {
         TwinTreeVolume x = Checks.made("k1g;w00001;w00102;f0;w00011;w10007;a20201;");
         Checks.due("no image", x.on(), -3);

@@ -20,6 +20,7 @@ public final class LookTest {
         Checks.end();
     }
 
+    /** Promise 14. */
     private static void runs() {
         TwinTreeVolume x = Checks.made(GAPS, "a31301;");
         // The page ahead took the last block: free are 1 (2), 5 (5), 12 (4), 30 (7).
@@ -71,6 +72,7 @@ public final class LookTest {
         Checks.due("no runs", x.count(3), 0);
     }
 
+    /** Promise 15. */
     private static void fit() {
         TwinTreeVolume x = Checks.made(GAPS);
         int[] due = {63, 1, 12, 12, 5, 30, 30, -9, -9};
@@ -85,6 +87,7 @@ public final class LookTest {
         Checks.due("all free", new TwinTreeVolume().fit(64), 0);
     }
 
+    /** Promise 16. */
     private static void nearest() {
         TwinTreeVolume x = Checks.made(GAPS);
         Checks.due("nearest to 0", x.nearest(0, 1), 1);
@@ -101,6 +104,7 @@ public final class LookTest {
         Checks.due("size 65", x.nearest(0, 65), -6);
     }
 
+    /** Promise 17. */
     private static void whose() {
         TwinTreeVolume x = Checks.made("w32377;f3;w11155;f1;");
         Checks.due("whose 0", x.whose(0, 0), 323);
@@ -119,6 +123,7 @@ public final class LookTest {
         Checks.due("kept", x.whose(0, 1), 77);
     }
 
+    /** Promise 18. */
     private static void stale() {
         TwinTreeVolume x = Checks.made("w00001;w00102;w00200;w00304;f0;");
         Checks.due("none free", x.stale(0), 0);
@@ -136,6 +141,7 @@ public final class LookTest {
         Checks.due("what -1", x.stale(-1), -2);
     }
 
+    /** Promise 25. */
     private static void gather() {
         TwinTreeVolume x = Checks.made(GAPS);
         // 19 free blocks in all.
@@ -158,6 +164,7 @@ public final class LookTest {
         Checks.due("what -1", x.gather(1, -1), -2);
     }
 
+    /** Promise 28. */
     private static void most() {
         TwinTreeVolume x = Checks.made("a00024;a10024;w20001;w20501;a20701;");
         Checks.due("holes", x.most(2), 13);
@@ -173,6 +180,7 @@ public final class LookTest {
         Checks.due("file -1", x.most(-1), -1);
     }
 
+    /** Promise 29. */
     private static void larger() {
         TwinTreeVolume x = Checks.made("a00002;a10003;a20402;");
         // 7 blocks are taken, 57 free behind them.
@@ -195,6 +203,7 @@ public final class LookTest {
         Checks.due("greatest", v.count(4), 12);
     }
 
+    /** Promise 32. */
     private static void mean() {
         TwinTreeVolume x = new TwinTreeVolume();
         Checks.due("none", x.mean(0), 0);
@@ -212,6 +221,7 @@ public final class LookTest {
         Checks.due("10 pages by 6", x.mean(1), 3);
     }
 
+    /** Promise 41. */
     private static void count() {
         TwinTreeVolume x = Checks.made(GAPS, "w00001;w00102;w20601;w20002;");
         Checks.due("free", x.count(0), 19);

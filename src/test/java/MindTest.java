@@ -28,6 +28,7 @@ public final class MindTest {
         Checks.end();
     }
 
+    /** Promise 19. */
     private static void scatter() {
         TwinTreeVolume x = Checks.made(GAPS);
         Checks.due("nothing", x.scatter(0), 0);
@@ -43,6 +44,7 @@ public final class MindTest {
         Checks.due("file -1", x.scatter(-1), -1);
     }
 
+    /** Promise 20. */
     private static void kindBest() {
         TwinTreeVolume x = Checks.made(GAPS, "k0g;w00001;f0;k0p;w00102;");
         // Page 0 is at 30. NEAR, STRIPED, GREAT and CLOSE put page 1 behind it; PLAIN and HIGH at 63.
@@ -58,6 +60,7 @@ public final class MindTest {
         Checks.due("file 4", x.kindBest(4, 2), -1);
     }
 
+    /** Promise 21. */
     private static void order() {
         TwinTreeVolume x = Checks.made(RIVALS);
         Checks.due("order", x.order(0), 2134);
@@ -71,6 +74,7 @@ public final class MindTest {
         Checks.due("extents", x.order(1), 6);
     }
 
+    /** Promise 22. */
     private static void steps() {
         TwinTreeVolume x = Checks.made(RIVALS);
         Checks.due("one piece, three pages", x.steps(0), 7);
@@ -89,6 +93,7 @@ public final class MindTest {
         return Checks.made("w00001;w00100;w00303;f0;w00011;w00405;w10007;");
     }
 
+    /** Promises 23 and 24. */
     private static void loses() {
         TwinTreeVolume x = atRisk();
         int[] own = {2, 2, 1, 1, 1, 0, 0};
@@ -120,6 +125,7 @@ public final class MindTest {
         Checks.due("safe of file -1", x.safe(-1), -1);
     }
 
+    /** Promises 30 and 31. */
     private static void odds() {
         TwinTreeVolume x = atRisk();
         Checks.due("lost above", x.lost(0, 0), 7);
@@ -158,6 +164,7 @@ public final class MindTest {
         Checks.due("8 by 6 below", z.lost(1, 1), 3);
     }
 
+    /** Promise 26. */
     private static void first() {
         TwinTreeVolume x = Checks.made(RIVALS);
         Checks.due("the other one ahead", x.first(0, 1), 1);
@@ -169,6 +176,7 @@ public final class MindTest {
         Checks.due("still waiting", x.count(1), 7);
     }
 
+    /** Promise 27. */
     private static void two() {
         TwinTreeVolume x = Checks.made(RIVALS);
         Checks.due("the one finds its run anyway", x.two(0, 1), 0);
@@ -186,6 +194,7 @@ public final class MindTest {
         return x.which(0);
     }
 
+    /** Promise 33. */
     private static void which() {
         TwinTreeVolume x = Checks.made(GAPS, "w00001;w00102;w00203;");
         // PLAIN, NEAR, STRIPED and CLOSE take 12; GREAT takes 30; HIGH takes 13.
@@ -245,6 +254,7 @@ public final class MindTest {
         Checks.due("free runs of lots " + n + ", " + seed, answerOfRuns, runs);
     }
 
+    /** Promise 38. */
     private static void lots() {
         int[] seeds = {0, 1, -1, 20261118, Integer.MAX_VALUE, Integer.MIN_VALUE};
         for (int seed : seeds) {

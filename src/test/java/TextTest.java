@@ -13,6 +13,7 @@ public final class TextTest {
         Checks.end();
     }
 
+    /** Promise 1. */
     private static void newObject() {
         TwinTreeVolume x = new TwinTreeVolume();
         for (int b = 0; b < 64; b++) {
@@ -36,6 +37,7 @@ public final class TextTest {
         }
     }
 
+    /** Promise 2. */
     private static void letters() {
         TwinTreeVolume x = new TwinTreeVolume();
         Checks.due("letter 0", x.letter(0), 1);
@@ -66,6 +68,7 @@ public final class TextTest {
         }
     }
 
+    /** Promise 3: faults of kind 1. */
     private static void faultsOfForm() {
         fault("", -1000);
         fault(";", -1000);
@@ -94,6 +97,7 @@ public final class TextTest {
         fault("w00001;k1n;f0;\u00ff", -1014);
     }
 
+    /** Promise 3: faults of kind 2. */
     private static void faultsOfStatements() {
         fault("w40000;", -2000);
         fault("f9;", -2000);
@@ -120,6 +124,7 @@ public final class TextTest {
         fault("a00024;a10024;w20001;w20101;a20215;", -2028);
     }
 
+    /** Promise 3: what comes without a fault. */
     private static void statementsCome() {
         TwinTreeVolume x = new TwinTreeVolume();
         Checks.due("all kinds of statements",
@@ -155,6 +160,7 @@ public final class TextTest {
         Checks.due("read", full.read(0, 23), 98);
     }
 
+    /** Promise 3: a volume that is told comes to what is there. */
     private static void textComesToWhatIsThere() {
         TwinTreeVolume x = Checks.made("w00005;w00106;");
         Checks.due("steps", x.steps(0), 5);
