@@ -329,17 +329,8 @@ final class EdgesOfCalls {
         Checks.due("none", x.safe(3), 0);
     }
 
-    /** File 0, GREAT, takes three of the four blocks on end that file 1 needs, if it is flushed first. */
-    private static TwinTreeVolume rivals() {
-        TwinTreeVolume x = Given.free(0, 4, 10, 3);
-        x.kind(0, 3);
-        Given.says(x, 0, 0, 1, 2, 3);
-        Given.says(x, 1, 16, 1, 2, 3, 4);
-        return x;
-    }
-
     private static void pairs() {
-        TwinTreeVolume x = rivals();
+        TwinTreeVolume x = Given.rivals();
         Quotes.promise(26, "FIRST; -9.");
         Checks.due("the other way round", x.first(0, 1), 1);
         Checks.due("the one, then the other one", x.first(1, 0), 0);
@@ -431,10 +422,7 @@ final class EdgesOfCalls {
         Checks.due("one that is not there", x.forged(), 2);
         Checks.due("the row has none then", x.count(6), 0);
         // The most that a row can tell: 16 pairs, of 17 runs.
-        TwinTreeVolume many = Given.free();
-        for (int b = 0; b < 34; b += 2) {
-            Given.open(many, b, 1);
-        }
+        TwinTreeVolume many = Given.lone(17);
         for (int b = 0; b < 32; b += 2) {
             Checks.row(many, b, 1);
         }

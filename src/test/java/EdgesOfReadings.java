@@ -131,10 +131,7 @@ final class EdgesOfReadings {
         int[] extents = {1, 4, 5, 16, 17, 24};
         int[] depths = {0, 0, 1, 1, 2, 2};
         for (int i = 0; i < extents.length; i++) {
-            TwinTreeVolume y = Given.free();
-            for (int b = 0; b < 2 * extents[i]; b += 2) {
-                Given.open(y, b, 1);
-            }
+            TwinTreeVolume y = Given.lone(extents[i]);
             y.ahead(0, 0, extents[i]);
             Checks.due("extents", y.file(0, 4), extents[i]);
             Checks.due("depth of " + extents[i], y.file(0, 5), depths[i]);
@@ -194,10 +191,7 @@ final class EdgesOfReadings {
         }
         Checks.due("of no page", new TwinTreeVolume().kindBest(3, 0), 0);
         Checks.due("of no page", new TwinTreeVolume().kindBest(3, 1), 0);
-        TwinTreeVolume most = Given.free();
-        for (int b = 0; b < 48; b += 2) {
-            Given.open(most, b, 1);
-        }
+        TwinTreeVolume most = Given.lone(24);
         for (int p = 0; p < 24; p++) {
             most.says(0, p, 9);
         }
@@ -239,24 +233,12 @@ final class EdgesOfReadings {
         Checks.due(what + ": extents", x.kindBest(0, 1), extents);
     }
 
-    /**
-     * Free: 0 (4), 10 (3). File 0, GREAT, takes three of the four if it is flushed ahead of file 1, and then the four
-     * pages of file 1 find no run.
-     */
-    private static TwinTreeVolume rivals() {
-        TwinTreeVolume x = Given.free(0, 4, 10, 3);
-        x.kind(0, 3);
-        Given.says(x, 0, 0, 1, 2, 3);
-        Given.says(x, 1, 16, 1, 2, 3, 4);
-        return x;
-    }
-
     private static void order() {
         Quotes.terms("ORDER: in which all four FILES are FLUSHED so that EXTENTS of all together are fewest, of several"
                 + " the first: a number whose digits, from the first on, are FILES and 1; these EXTENTS.", 21);
         Checks.due("all alike: the first", new TwinTreeVolume().order(0), 1234);
         Checks.due("none", new TwinTreeVolume().order(1), 0);
-        TwinTreeVolume x = rivals();
+        TwinTreeVolume x = Given.rivals();
         int together = x.count(5);
         Checks.due("file 1 ahead of file 0, of several the first", x.order(0), 2134);
         Checks.due("one extent more for each", x.order(1), together + 2);
@@ -397,7 +379,7 @@ final class EdgesOfReadings {
     private static void first() {
         Quotes.terms("FIRST of two FILES: to FLUSH the one, then the other one (0), or the other way round (1): that by"
                 + " which both have fewer EXTENTS together; -9 alike.", 26);
-        TwinTreeVolume x = rivals();
+        TwinTreeVolume x = Given.rivals();
         Checks.due("the other way round", x.first(0, 1), 1);
         Checks.due("the one ahead", x.first(1, 0), 0);
         Checks.due("alike", x.first(0, 2), -9);
@@ -410,7 +392,7 @@ final class EdgesOfReadings {
                 + " FLUSHED, the other one ahead of the one: each wants EXTENTS of its own fewest: the first pair (10 the"
                 + " one's and the other's; by 0, 1, 10, 11) by which neither has fewer by another one of its own alone;"
                 + " -9.", 27);
-        TwinTreeVolume x = rivals();
+        TwinTreeVolume x = Given.rivals();
         Checks.due("the one finds its run anyway", x.two(0, 1), 0);
         Checks.due("the one must be flushed now", x.two(1, 0), 10);
         Checks.due("nothing is flushed", x.count(1), 7);
@@ -655,7 +637,7 @@ final class EdgesOfReadings {
             // Room for some of the eight alone.
             played(Given.free(2, 1, 9, 1, 40, 1), 5, seed);
             // Files flushed by numbers: the first, GREAT, takes the run that another one would need.
-            TwinTreeVolume x = rivals();
+            TwinTreeVolume x = Given.rivals();
             Given.open(x, 50, 3);
             played(x, 6, seed);
         }

@@ -80,10 +80,7 @@ final class EdgesOfTerms {
         Given.runs("one more behind", x, 0, 4, 5, 4, 60, 4);
         Given.runs("the first block alone", Given.free(0, 1), 0, 1);
         Given.runs("the last block alone", Given.free(63, 1), 63, 1);
-        TwinTreeVolume most = Given.free();
-        for (int b = 0; b < 64; b += 2) {
-            Given.open(most, b, 1);
-        }
+        TwinTreeVolume most = Given.lone(32);
         Checks.due("most runs", most.count(3), 32);
         Checks.due("last of them", most.byPlace(31, 0), 6201);
         Checks.due("no 33rd", most.byPlace(32, 0), -1);
@@ -226,10 +223,7 @@ final class EdgesOfTerms {
         Checks.due("of the one", two.file(0, 4), 1);
         Checks.due("of the other", two.file(1, 4), 1);
         Checks.due("of both", two.count(5), 2);
-        TwinTreeVolume most = Given.free();
-        for (int b = 0; b < 48; b += 2) {
-            Given.open(most, b, 1);
-        }
+        TwinTreeVolume most = Given.lone(24);
         most.ahead(0, 0, 24);
         Checks.due("most", most.file(0, 4), 24);
     }
@@ -355,10 +349,7 @@ final class EdgesOfTerms {
         TwinTreeVolume split = Given.free(1, 2, 10, 3);
         Given.says(split, 0, 0, 1, 2, 3, 4, 5);
         Checks.due("a series of two pieces", split.flush(0), 12);
-        TwinTreeVolume most = Given.free();
-        for (int b = 0; b < 48; b += 2) {
-            Given.open(most, b, 1);
-        }
+        TwinTreeVolume most = Given.lone(24);
         for (int p = 0; p < 24; p++) {
             most.says(0, p, 1);
         }

@@ -21,6 +21,27 @@ final class Given {
         return x;
     }
 
+    /** Free are n blocks alone, none beside another: 0, 2, 4, .. */
+    static TwinTreeVolume lone(int n) {
+        TwinTreeVolume x = free();
+        for (int i = 0; i < n; i++) {
+            open(x, 2 * i, 1);
+        }
+        return x;
+    }
+
+    /**
+     * Free: 0 (4), 10 (3). File 0, GREAT, takes three of the four if it is flushed ahead of file 1, and then the four
+     * pages of file 1 find no run.
+     */
+    static TwinTreeVolume rivals() {
+        TwinTreeVolume x = free(0, 4, 10, 3);
+        x.kind(0, 3);
+        says(x, 0, 0, 1, 2, 3);
+        says(x, 1, 16, 1, 2, 3, 4);
+        return x;
+    }
+
     static void open(TwinTreeVolume x, int... runs) {
         for (int i = 0; i + 1 < runs.length; i += 2) {
             for (int b = runs[i]; b < runs[i] + runs[i + 1]; b++) {
