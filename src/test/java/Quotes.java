@@ -7,20 +7,37 @@ import java.util.regex.Pattern;
 
 /**
  * The document's words, sentence by sentence. A test quotes a sentence ahead of the checks that would fail if it were
- * broken; at the end every word of the "Terms" and of the promises must have been quoted by one of them.
+ * broken; at the end every word of the document must have been quoted by one of them.
  */
 final class Quotes {
     private static final Path DOCUMENT = Path.of("../shared/DOC.md");
     private static final int PROMISES = 41;
+    private static final String END = "";
     /** What stands there without asking anything: headings, a promise's own line of the face, marks of the layout. */
     private static final Pattern LAYOUT = Pattern.compile(
-            "## Terms|## Promise \\d+: [^`]*`[^`]*`:|```text|```|==== II\\.|In mind:");
+            "^# TwinTreeVolume|## What it is|## The public face|## Terms|## Promise \\d+: [^`]*`[^`]*`:|## Not promised"
+                    + "|```(java|text)?|==== II?\\.|In mind:");
 
     private static final String TEXT = read();
     private static final boolean[] QUOTED = new boolean[TEXT.length()];
     private static int checksAhead = -1;
 
     private Quotes() {
+    }
+
+    /** A sentence of "What it is". */
+    static void whatItIs(String words) {
+        quote("What it is", "## What it is", "## The public face", words);
+    }
+
+    /** A line of "The public face". */
+    static void face(String words) {
+        quote("The public face", "## The public face", "## Terms", words);
+    }
+
+    /** A sentence of "Not promised". */
+    static void notPromised(String words) {
+        quote("Not promised", "## Not promised", END, words);
     }
 
     /** A sentence of the "Terms", and the promises to which it belongs. */
@@ -41,7 +58,8 @@ final class Quotes {
     private static void quote(String where, String from, String to, String words) {
         endOfQuote();
         int begin = TEXT.indexOf(words, TEXT.indexOf(from));
-        boolean isThere = begin >= 0 && begin + words.length() <= TEXT.indexOf(to);
+        int end = to.equals(END) ? TEXT.length() : TEXT.indexOf(to);
+        boolean isThere = begin >= 0 && begin + words.length() <= end;
         Checks.under(where + ": " + words);
         Checks.holds("the document says so", isThere);
         if (isThere) {
@@ -58,7 +76,7 @@ final class Quotes {
         checksAhead = -1;
     }
 
-    /** Every word of the "Terms" and of the promises has been quoted. */
+    /** Every word of the document has been quoted. */
     static void end() {
         endOfQuote();
         Checks.under("the document's sentences");
@@ -66,11 +84,10 @@ final class Quotes {
         while (layout.find()) {
             Arrays.fill(QUOTED, layout.start(), layout.end(), true);
         }
-        int end = TEXT.indexOf("## Not promised");
-        int from = TEXT.indexOf("## Terms");
-        while (from >= 0 && from < end) {
+        int from = 0;
+        while (from < TEXT.length()) {
             int to = from;
-            while (to < end && QUOTED[to] == QUOTED[from]) {
+            while (to < TEXT.length() && QUOTED[to] == QUOTED[from]) {
                 to++;
             }
             String words = TEXT.substring(from, to);
